@@ -1625,15 +1625,19 @@ public final class TwinVoice {
         private final int[] firstStep = new int[MOST_HOURS];
         private final int[] secondStep = new int[MOST_HOURS];
 
+        /** Hours that neither twin wants change nothing, but each doubles the calm splits. */
         void tally(Valley v, int pair) {
             int allFirst = laySteps(v, 2 * pair, firstStep);
             int allSecond = laySteps(v, 2 * pair + 1, secondStep);
+            int wanted = v.wantedHours(2 * pair) | v.wantedHours(2 * pair + 1);
+            int wantedCount = Integer.bitCount(wanted);
             int first = 0;
             int second = allSecond;
+            int set = 0;
             startFrom(second);
-            calmSets = 0;
-            for (int set = 0; set < (1 << v.hours); set++) {
-                if (set > 0) {
+            for (int i = 0; i < (1 << wantedCount); i++) {
+                if (i > 0) {
+                    set = (set - wanted) & wanted;
                     int lowest = lowestOf(set);
                     first += at(firstStep, lowest);
                     second -= at(secondStep, lowest);
@@ -1643,11 +1647,12 @@ public final class TwinVoice {
                     calmSets++;
                 }
             }
+            calmSets <<= v.hours - wantedCount;
         }
 
         /**
-         * Counting on from one set to the next puts in the new set's lowest hour and takes out all
-         * below it. Answers the sum over all hours.
+         * Counting on from one set of wanted hours to the next puts in the new set's lowest hour and
+         * takes out all below it. Answers the sum over all hours.
          */
         private static int laySteps(Valley v, int person, int[] steps) {
             int sum = 0;
@@ -1673,6 +1678,7 @@ public final class TwinVoice {
             bestFirst = 0;
             bestSecond = second;
             fairest = 0;
+            calmSets = 0;
             leastGap = second;
         }
 

@@ -57,6 +57,12 @@ public final class KeepTest {
         Probe.due("said() of image 1", x.said(), 3);
         Probe.due("the latest one is known", x.undo(), 1);
         Probe.due("the first one stays", x.said(), 2);
+        x.undo();
+        x.say(0, 0);
+        x.say(1, 0);
+        Probe.due("back(1) again", x.back(1), 0);
+        Probe.due("undo() of its latest", x.undo(), 1);
+        Probe.due("the first one of image 1", x.said(), 2);
         Probe.due("back(2)", x.back(2), 0);
         Probe.due("worth of image 2", x.want(0, 2), 77);
         Probe.due("nothing said", x.count(6), 0);

@@ -14,6 +14,7 @@ public final class TapeTest {
         faultsOfJobs();
         faultsOfTokens();
         faultsOfTooMany();
+        cutTokens();
         rowsAsTold();
         Probe.close("TapeTest");
     }
@@ -82,7 +83,11 @@ public final class TapeTest {
         Probe.due("there is none then", x.said(), -2);
         Probe.due("no lines", x.count(7), 0);
         Probe.due("no wants", x.want(0, 0), -2);
-        Probe.due("tape of blanks is empty", x.count(8), 0);
+        for (int what = 0; what <= 9; what++) {
+            Probe.due("blanks alone, count(" + what + ")", x.count(what), 0);
+        }
+        Probe.due("no pair", x.voice(0, 0), -2);
+        Probe.due("no odds", x.drawn(0, 0), -2);
         Probe.due("an empty tape", x.valley(), 0);
     }
 
@@ -200,6 +205,10 @@ public final class TapeTest {
         fault(HEAD + "want 0 at 0 worth 4294967297;", 2, 49);
         fault(HEAD + "want 0 at 0 worth 18446744073709551617;", 2, 49);
         fault(HEAD + "wantx 0 at 0 worth 1;", 1, 31);
+        fault(HEAD + "wantz 0 at 0 worth 1;", 1, 31);
+        fault(HEAD + "wanta 0 at 0 worth 1;", 1, 31);
+        fault(HEAD + "cant 0 at 0 worth 1;", 1, 31);
+        fault(HEAD + "wan 0 at 0 worth 1;", 1, 31);
         fault(HEAD + "want 0 at 0 worth 1whispers;", 1, 50);
         fault(HEAD + "want 9 at 9 worth 999", 2, 36);
         fault(HEAD + "`", 1, 31);
@@ -235,6 +244,19 @@ public final class TapeTest {
         Probe.due("no seventh lend", x.lend(6, 2), -2);
         Probe.due("the fourth job", x.job(3, 2), 1);
         Probe.due("no fifth job", x.job(4, 2), -2);
+    }
+
+    /** What end() cut off is gone, though the next bytes would go on with the last token. */
+    private static void cutTokens() {
+        TwinVoice x = new TwinVoice();
+        Probe.tape(x, "valley pairs 1 hours 1 odds 50;");
+        x.end(29);
+        Probe.due("cut in a number", x.valley(), -4);
+        Probe.due("at the end", x.fault(1), 29);
+        x.end(4);
+        Probe.due("cut in a word", x.valley(), -4);
+        Probe.due("at its first byte", x.fault(1), 0);
+        Probe.due("the tape as it is", x.count(8), 4);
     }
 
     private static void row(String call, int[] got, int... due) {
