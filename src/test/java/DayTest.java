@@ -131,6 +131,7 @@ public final class DayTest {
         TwinVoice y = Probe.of("valley pairs 1 hours 2 odds 58;" + wants);
         Probe.due("odds 58, said", y.drawn(1, 0), Probe.set(0, 2));
         Probe.due("odds 58, not tried", y.drawn(1, 2), 0);
+        Probe.due("seed 0, behind a day that tried want 1", x.drawn(0, 2), 0);
         TwinVoice z = Probe.of("valley pairs 1 hours 2 odds 38;" + wants);
         Probe.due("odds 38", z.drawn(1, 0), Probe.set(2));
         z.say(1, 0);

@@ -111,6 +111,9 @@ public final class KeepTest {
         Probe.due("told", y.callers(0, 0), 0);
         y.row(0, 0, 4);
         Probe.due("all 0", y.callers(0, 1), 3);
+        Probe.fill(y, 0, 0, 1, 1, 1, 1);
+        y.row(0, 0, 4);
+        Probe.due("all 0, the first one too", y.callers(0, 1), 3);
     }
 
     private static void writes() {

@@ -75,7 +75,7 @@ public final class TapeTest {
         Probe.due("fault(0)", x.fault(0), 0);
         Probe.due("fault(1)", x.fault(1), -1);
         x.say(0, 0);
-        Probe.due("in place of another", Probe.read(x, "valley pairs 1 hours 1 odds 0; want 1 at 0 worth 9;"), 2);
+        Probe.due("in place of another", Probe.read(x, "valley pairs 1 hours 1 odds 7; want 1 at 0 worth 9;"), 2);
         Probe.due("nothing said", x.said(), 0);
         Probe.due("lends are gone", x.count(4), 0);
         Probe.due("its want", x.want(0, 0), 1);
