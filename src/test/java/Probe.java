@@ -24,6 +24,14 @@ final class Probe {
         }
     }
 
+    static int asked() {
+        return asked;
+    }
+
+    static int wrong() {
+        return wrong;
+    }
+
     static boolean clean() {
         return wrong == 0;
     }
