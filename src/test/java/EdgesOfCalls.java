@@ -204,6 +204,11 @@ final class EdgesOfCalls {
             Probe.due("for another HOUR", lies(x, 0, 0, 2, 1), 0);
             Probe.due("another PAIR's", lies(x, 0, 1, 0, 2), 0);
             Probe.due("who doesn't SHARE", lies(x, 1, 2, 1, 3), 0);
+            TwinVoice last = Probe.of(FOUR + "lend 0 to 6 at 11;lend 2 to 4 at 10;");
+            Probe.due("of the last PAIR, who doesn't", lies(last, 11, 6, 11, 7), 0);
+            Probe.due("of the last PAIR, who does", lies(last, 10, 6, 10, 7), 1);
+            Probe.due("of PAIR 2, who doesn't", lies(last, 10, 5, 10, 4), 0);
+            Probe.due("of PAIR 2, who does", lies(last, 11, 5, 11, 4), 1);
             Probe.due("both may not, counted once each", lies(x, 1, 0, 1, 1), 2);
         });
         Edges.says("-2: there is no such SLOT, no VALLEY, a number is none such (asked last), not two each;", () -> noneSuch(TwinVoice::lies));

@@ -241,6 +241,11 @@ final class EdgesOfDays {
             TwinVoice x = Probe.of(all);
             Probe.due("a CLASH, a dumb one", x.drawn(0, 2), Probe.set(1, 2));
             Probe.due("none tried", Probe.of(FEW.replace("odds 50", "odds 0")).drawn(0, 2), 0);
+            TwinVoice half = Probe.of("valley pairs 2 hours 1 odds 50;want 0 at 0 worth 1;want 1 at 0 worth 1;lend 0 to 2 at 0;");
+            for (int seed = 0; seed < 40; seed++) {
+                int tried = (EdgesOfTerms.draw(seed, 0) < 50 ? 1 : 0) + (EdgesOfTerms.draw(seed, 1) < 50 ? 2 : 0);
+                Probe.due("both dumb, seed " + seed, half.drawn(seed, 2), tried);
+            }
         });
         Edges.says("-2: there are none such, no VALLEY.", () -> {
             TwinVoice x = Probe.of(FEW);
@@ -287,11 +292,13 @@ final class EdgesOfDays {
         Edges.of(59);
         Edges.says("The worth of a WANT is n (1 .. 99) from now on: what it was.", () -> {
             TwinVoice x = Probe.of(FEW);
+            Probe.due("plan() at first", x.plan(), 15);
             Probe.due("99", x.rate(1, 99), 7);
             Probe.due("1", x.rate(1, 1), 99);
             Probe.due("the same", x.rate(1, 1), 1);
             Probe.due("want(1, 2)", x.want(1, 2), 1);
             Probe.due("plan()", x.plan(), 9);
+            Probe.due("ways()", x.ways(), 1);
             Probe.due("without(1)", x.without(1), 8);
             Probe.due("gets(1)", x.gets(1), 1);
             Probe.due("say(1, 0)", x.say(1, 0), 1);

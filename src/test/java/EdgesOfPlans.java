@@ -109,6 +109,8 @@ final class EdgesOfPlans {
             Probe.due("the first PLAN says it in its HOUR", Probe.of(TWO + "want 0 at 0 worth 5 late;").quiet(), Probe.set(1, 2));
             Probe.due("late ones in the next", Probe.of(nine(false, " late")).quiet(), 4095 & ~3);
             Probe.due("no HOUR", Probe.of("valley pairs 1 hours 1 odds 0;want 0 at 0 worth 1;").quiet(), 0);
+            Probe.due("not said behind one that may be late", Probe.of(TWO + "want 0 at 0 worth 5 late;want 2 at 0 worth 3;lend 2 to 0 at 0;").quiet(),
+                    Probe.set(1, 2));
         });
         Edges.says("-2: there is no VALLEY.", () -> Edges.noValley("quiet", y -> y.quiet()));
         Edges.of(24);

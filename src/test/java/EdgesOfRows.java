@@ -93,6 +93,9 @@ final class EdgesOfRows {
             x.image(0);
             x.anew();
             x.rate(0, 99);
+            Probe.due("plan() without it", x.plan(), 119);
+            x.say(0, 0);
+            x.say(1, 0);
             Probe.due("back(0)", x.back(0), 0);
             Probe.due("worth", x.want(0, 2), 10);
             Probe.due("plan()", x.plan(), 30);
@@ -107,6 +110,11 @@ final class EdgesOfRows {
             Probe.due("and again", x.back(0), 0);
             Probe.due("the TAPE stays", x.count(8), 20);
             Probe.due("the SLOTS stay", x.count(9), 1);
+            Probe.read(x, TWO + "lend 0 to 2 at 0;lend 0 to 2 at 1;");
+            Probe.due("another VALLEY", x.may(0), 12);
+            x.back(0);
+            Probe.due("MAY as it was", x.may(1), Probe.set(0, 1, 2, 3));
+            Probe.due("pay as it was", x.hire(), 6);
             TwinVoice none = new TwinVoice();
             none.image(1);
             Probe.read(none, FEW);

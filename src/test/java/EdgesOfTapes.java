@@ -127,9 +127,14 @@ final class EdgesOfTapes {
             Probe.due("HOUR 1", x.may(1), -2);
             Probe.due("HOUR 0", x.may(0), 3);
             Probe.due("PERSON 2", x.run(2), -2);
+            Probe.due("idle", x.idle(0), 1);
             Probe.due("worth", x.plan(), 0);
+            Probe.due("ways", x.ways(), 1);
             Probe.due("pay", x.hire(), 0);
-            Probe.due("IDLE", x.idle(0), 1);
+            Probe.due("and another LINE", Probe.read(x, "valley pairs 1 hours 1 odds 0;want 0 at 0 worth 9;"), 2);
+            Probe.due("its worth", x.plan(), 9);
+            Probe.due("its ways", x.ways(), 1);
+            Probe.due("its first PLAN", x.planned(0), 1);
         });
         Edges.says("nothing said:", () -> {
             TwinVoice x = Probe.of(HEAD + "want 0 at 0 worth 1;");
@@ -149,7 +154,9 @@ final class EdgesOfTapes {
             Probe.due("blanks alone", Probe.read(x, " \n"), 0);
             Probe.due("there is none then", x.plan(), -2);
             Probe.due("no PERSON", x.hours(0), -2);
-            Probe.due("no LINES", x.count(7), 0);
+            for (int what = 0; what <= 9; what++) {
+                Probe.due("then, count(" + what + ")", x.count(what), 0);
+            }
         });
         Edges.says("-4: a FAULT (all stays).", () -> {
             TwinVoice x = Probe.of(HEAD + "want 0 at 0 worth 1;want 2 at 1 worth 5;lend 2 to 0 at 2;job from 0 to 1 pays 7;");

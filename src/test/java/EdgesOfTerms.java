@@ -34,6 +34,9 @@ final class EdgesOfTerms {
             Probe.due("all before", x.may(0), 255);
             Probe.due("lent and holding 1, 2; home 6, 7", x.may(1), Probe.set(1, 2, 6, 7));
             Probe.due("all after", x.may(2), 255);
+            TwinVoice twice = Probe.of(FOUR + "lend 0 to 2 at 1;lend 0 to 2 at 2;lend 2 to 0 at 1;lend 2 to 0 at 2;");
+            Probe.due("lent and holding", twice.may(1), 255 & ~Probe.set(1, 3));
+            Probe.due("lent and holding again", twice.may(2), 255 & ~Probe.set(1, 3));
         });
         Edges.says("Twins SHARE, if neither holds a lent one.", () -> {
             String wants = "want 0 at 0 worth 1;want 1 at 0 worth 1;want 2 at 0 worth 1;want 3 at 0 worth 1;";
@@ -73,6 +76,13 @@ final class EdgesOfTerms {
                 Probe.due("who SHARE, " + both, Probe.of(FOUR + wants).clash(0, 0, 1, 0), both == 3 ? 0 : 1);
                 Probe.due("who don't, " + both, Probe.of(FOUR + wants + "lend 0 to 2 at 0;").clash(0, 0, 1, 0), 0);
             }
+            TwinVoice many = Probe.of(FOUR + "want 0 at 1 worth 1;want 0 at 1 worth 1;want 0 at 2 worth 1 whisper;want 6 at 0 worth 1 whisper;"
+                    + "want 7 at 0 worth 1;want 7 at 0 worth 1 whisper;want 6 at 0 worth 1;");
+            Probe.due("the first whispers", many.clash(3, 0, 4, 0), 1);
+            Probe.due("the first whispers, the other way", many.clash(4, 0, 3, 0), 1);
+            Probe.due("both whisper", many.clash(3, 0, 5, 0), 0);
+            Probe.due("the other whispers", many.clash(6, 0, 5, 0), 1);
+            Probe.due("of whispers, the other way", many.clash(5, 0, 3, 0), 0);
             String late = "lend 0 to 2 at 1;want 2 at 0 worth 1 late;want 3 at 0 worth 1 late;";
             Probe.due("then, in its HOUR", Probe.of(FOUR + late).clash(0, 0, 1, 0), 1);
             Probe.due("then, in the next", Probe.of(FOUR + late).clash(0, 1, 1, 1), 0);
@@ -86,6 +96,12 @@ final class EdgesOfTerms {
             Probe.due("both to a third", x.clash(0, 0, 3, 0), 0);
             Probe.due("in two HOURS", x.clash(0, 0, 4, 0), 0);
             Probe.due("to the other's twin", x.clash(1, 0, 5, 0), 0);
+            TwinVoice many = Probe.of(FOUR + "want 0 at 1 worth 1 to 4;want 0 at 1 worth 1 to 4;want 0 at 0 worth 1 to 4;want 2 at 0 worth 1 to 6;"
+                    + "want 4 at 0 worth 1 to 7;want 6 at 0 worth 1 to 5;");
+            Probe.due("each to his own one", many.clashes(2), Probe.set(4));
+            Probe.due("from 2", many.clashes(3), Probe.set(5));
+            Probe.due("from 4", many.clashes(4), Probe.set(2));
+            Probe.due("from 6", many.clashes(5), Probe.set(3));
         });
     }
 
@@ -185,6 +201,10 @@ final class EdgesOfTerms {
                     .hire(), 9);
             Probe.due("one of two HOURS", Probe.of("valley pairs 2 hours 2 odds 0;lend 0 to 2 at 1;job from 0 to 1 pays 5;"
                     + "job from 0 to 1 pays 4;").hire(), 5);
+            Probe.due("of the last PAIR they don't", Probe.of("valley pairs 4 hours 1 odds 0;lend 0 to 6 at 0;lend 2 to 6 at 0;lend 4 to 6 at 0;"
+                    + "job from 0 to 0 pays 5;job from 0 to 0 pays 4;").hire(), 9);
+            Probe.due("of another they do", Probe.of("valley pairs 4 hours 1 odds 0;lend 0 to 6 at 0;lend 4 to 6 at 0;lend 6 to 4 at 0;"
+                    + "job from 0 to 0 pays 5;job from 0 to 0 pays 4;job from 0 to 0 pays 3;job from 0 to 0 pays 2;").hire(), 12);
         });
     }
 

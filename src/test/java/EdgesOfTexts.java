@@ -131,6 +131,7 @@ final class EdgesOfTexts {
             Edges.fault(HEAD + "lend 0 to 2 at 1;lend 1 to 3 at 1;", 2, 63);
             Edges.fault(HEAD + "lend 0 to 2 at 1;lend 2 to 0 at 1;lend 3 to 1 at 1;", 2, 80);
             Edges.fine(HEAD + "lend 0 to 2 at 1;lend 1 to 2 at 0;lend 0 to 3 at 2;lend 2 to 0 at 1;", 5);
+            Edges.fault(HEAD + "lend 0 to 2 at 0;lend 0 to 2 at 1;lend 1 to 2 at 0;", 2, 80);
         });
         Edges.says("job: the last HOUR no less than the first", () -> {
             Edges.fine(HEAD + "job from 2 to 2 pays 1;", 2);
@@ -217,6 +218,9 @@ final class EdgesOfTexts {
         Edges.says("1 a TOKEN that is none, or can't stand there (valley behind the first LINE, another word ahead of it).", () -> {
             Edges.fault(HEAD + "?", 1, 31);
             Edges.fault(HEAD + "sing", 1, 31);
+            for (String word : new String[] {"cant", "wants", "wan", "tend", "lent", "mob", "jog", "jobs", "z", "wantz"}) {
+                Edges.fault(HEAD + word + " 0 at 0 worth 1;", 1, 31);
+            }
             Edges.fault(HEAD + "0", 1, 31);
             Edges.fault(HEAD + "valley", 1, 31);
             Edges.fault("want", 1, 0);

@@ -35,6 +35,10 @@ final class EdgesOfTwins {
             Probe.due("times, not together", Probe.of(TWO + "want 0 at 0 worth 9;want 0 at 1 worth 9;want 1 at 0 worth 1;").split(0),
                     Probe.set(1));
             Probe.due("one HOUR for two", Probe.of("valley pairs 1 hours 1 odds 0;want 0 at 0 worth 9;want 1 at 0 worth 1;").split(0), 0);
+            TwinVoice x = Probe.of(TWO + "want 0 at 1 worth 9;want 1 at 0 worth 9;want 2 at 0 worth 1;");
+            Probe.due("PAIR 0", x.split(0), Probe.set(1));
+            Probe.due("PAIR 1 behind it", x.split(1), 0);
+            Probe.due("PAIR 1, fair behind it", x.fair(1), 0);
             Probe.due("the VOICE is lent then", Probe.of(TWO + "want 0 at 0 worth 9;want 1 at 1 worth 1;lend 0 to 2 at 0;").split(0), 1);
         });
         Edges.says("-2: there is no such PAIR.", () -> {
@@ -92,6 +96,7 @@ final class EdgesOfTwins {
             Probe.due("two of four HOURS, eight others free", Probe.of(all(5, 5)).calm(0), 6 << 8);
             Probe.due("just half is enough", Probe.of(TWO + "want 0 at 0 worth 2;want 0 at 1 worth 2;want 1 at 1 worth 1;").calm(0), 2);
             Probe.due("half of 3 is more than 1", Probe.of(TWO + "want 0 at 0 worth 1;want 0 at 1 worth 2;want 1 at 1 worth 1;").calm(0), 0);
+            Probe.due("of the second one's too", Probe.of(TWO + "want 1 at 0 worth 1;want 1 at 1 worth 2;want 0 at 1 worth 1;").calm(0), 0);
             Probe.due("none", Probe.of("valley pairs 1 hours 1 odds 0;want 0 at 0 worth 9;want 1 at 0 worth 1;").calm(0), 0);
             Probe.due("all, nobody has a WANT", Probe.of(TWO).calm(1), 8);
             Probe.due("all of twelve HOURS", Probe.of("valley pairs 1 hours 12 odds 0;").calm(0), 4096);
@@ -125,13 +130,15 @@ final class EdgesOfTwins {
     private static void rests() {
         Edges.of(36);
         Edges.says("SPITE (V): how many pairs of choices are at REST, a cost 0 .. 99.", () -> {
-            TwinVoice x = Probe.of(TWO + "want 0 at 0 worth 1;want 1 at 0 worth 1;want 2 at 0 worth 1;want 3 at 2 worth 99;");
-            int[][] due = {{3, 2}, {4, 3}, {4, 3}};
+            TwinVoice x = Probe.of(TWO + "want 0 at 0 worth 1;want 1 at 0 worth 1;want 1 at 2 worth 1;want 1 at 1 worth 5;want 2 at 0 worth 1;want 3 at 2 worth 99;");
+            int[][] due = {{3, 2}, {3, 2}, {3, 2}};
             for (int hour = 0; hour < 3; hour++) {
                 Probe.due("no cost, HOUR " + hour, x.rests(0, hour, 0), due[hour][0]);
                 Probe.due("cost 1, HOUR " + hour, x.rests(0, hour, 1), due[hour][1]);
                 Probe.due("cost 99, HOUR " + hour, x.rests(0, hour, 99), due[hour][1]);
             }
+            Probe.due("neither of PAIR 1, no cost", x.rests(1, 1, 0), 4);
+            Probe.due("neither of PAIR 1, a cost", x.rests(1, 1, 1), 3);
             Probe.due("the first twin alone wants it, no cost", x.rests(1, 0, 0), 3);
             Probe.due("the first twin alone wants it, a cost", x.rests(1, 0, 1), 2);
             Probe.due("the second one alone, no cost", x.rests(1, 2, 0), 3);

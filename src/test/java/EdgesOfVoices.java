@@ -247,6 +247,9 @@ final class EdgesOfVoices {
             Probe.due("neither twin, PAIR 0", x.idle(0), 4095 & ~Probe.set(0, 11));
             Probe.due("at home, PAIR 3; the next HOUR is", x.idle(3), 4095 & ~Probe.set(1, 5));
             Probe.due("all", x.idle(1), 4095);
+            TwinVoice first = Probe.of(FOUR + "want 6 at 3 worth 1;want 1 at 4 worth 1;want 3 at 5 worth 1;");
+            Probe.due("the first twin's WANT", first.idle(3), 4095 & ~Probe.set(3));
+            Probe.due("the second twin's WANT", first.idle(1), 4095 & ~Probe.set(5));
             Probe.due("none", Probe.of("valley pairs 1 hours 1 odds 0;want 1 at 0 worth 1;").idle(0), 0);
             Probe.due("holding is no matter", Probe.of(TWO + "lend 0 to 2 at 1;").idle(1), 7);
         });
